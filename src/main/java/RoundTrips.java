@@ -1452,7 +1452,8 @@ public final class RoundTrips {
         }
 
         private void countIn(int round) {
-            for (int i = 0; i < lengthOf(round); i++) {
+            int hops = lengthOf(round);
+            for (int i = 0; i < hops; i++) {
                 int t = transferAt(round, i);
                 uses[t]++;
                 touched[book.from[t]]++;
@@ -1461,11 +1462,12 @@ public final class RoundTrips {
         }
 
         private void net(int round) {
+            int hops = lengthOf(round);
             int least = MOST_AMOUNT;
-            for (int i = 0; i < lengthOf(round); i++) {
+            for (int i = 0; i < hops; i++) {
                 least = Math.min(least, unspent[transferAt(round, i)]);
             }
-            for (int i = 0; i < lengthOf(round); i++) {
+            for (int i = 0; i < hops; i++) {
                 unspent[transferAt(round, i)] -= least;
             }
             netted += least;
@@ -1525,8 +1527,9 @@ public final class RoundTrips {
         }
 
         int flowOf(int round) {
+            int hops = lengthOf(round);
             int least = MOST_AMOUNT;
-            for (int i = 0; i < lengthOf(round); i++) {
+            for (int i = 0; i < hops; i++) {
                 least = Math.min(least, book.amount[transferAt(round, i)]);
             }
             return least;
@@ -1538,8 +1541,9 @@ public final class RoundTrips {
         }
 
         float paceOf(int round) {
+            int hops = lengthOf(round);
             int sum = 0;
-            for (int i = 0; i < lengthOf(round); i++) {
+            for (int i = 0; i < hops; i++) {
                 sum += book.amount[transferAt(round, i)];
             }
             return (float) sum / ((float) spanOf(round) + 1f);
@@ -1648,7 +1652,8 @@ public final class RoundTrips {
                 tally[t] = 0;
             }
             for (int round = 0; round < count; round++) {
-                for (int i = 0; alarmOf[round] == alarm && i < lengthOf(round); i++) {
+                int hops = alarmOf[round] == alarm ? lengthOf(round) : 0;
+                for (int i = 0; i < hops; i++) {
                     tally[transferAt(round, i)]++;
                 }
             }
@@ -1666,7 +1671,8 @@ public final class RoundTrips {
         }
 
         private boolean isApart(int round) {
-            for (int i = 0; i < lengthOf(round); i++) {
+            int hops = lengthOf(round);
+            for (int i = 0; i < hops; i++) {
                 if (tally[transferAt(round, i)] > 1) {
                     return false;
                 }

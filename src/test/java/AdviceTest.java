@@ -65,6 +65,8 @@ public final class AdviceTest {
             Check.due(x, "funnel(3, 0, " + what + ")", x.funnel(3, 0, what), 0, 0);
         }
         Check.due("funnel(3, 9, 0)", x.funnel(3, 9, 0), 2);
+        Check.due(x, "funnel(0, 9, 3)", x.funnel(0, 9, 3), 1, 0);
+        Check.due(x, "funnel(0, 9, 4)", x.funnel(0, 9, 4), 90, 0);
         Check.refused(x, "funnel(8, 9, 0)", x.funnel(8, 9, 0), 5);
         Check.refused(x, "funnel(-1, 9, 0)", x.funnel(-1, 9, 0), 1);
         Check.refused(x, "breadth -1", x.funnel(3, -1, 0), 1);
@@ -137,6 +139,12 @@ public final class AdviceTest {
         Check.due(x, "need(0)", x.need(0), 300, 0);
         for (int which : new int[] {-1, 1, 4}) {
             Check.refused(x, "need(" + which + ")", x.need(which), 1);
+        }
+        for (int loss = 0; loss <= 90; loss++) {
+            x = Check.loaded("a b;pay a>b 1000 at 1;pay b>a " + (1000 - 10 * loss) + " at 2;");
+            Check.due(x, "need(2) of " + loss, x.need(2), loss, 0);
+            x = Check.loaded("a b;pay a>b 1000 at 1;pay b>a " + (1000 + 10 * loss) + " at 2;");
+            Check.due(x, "need(3) of " + loss, x.need(3), loss, 0);
         }
         x = Check.loaded("a b;pay a>b 1000 at 1;pay b>a 100 at 2;");
         Check.due("need(2)", x.need(2), 90);

@@ -258,6 +258,10 @@ public final class BookTest {
         for (int what = 0; what < due.length; what++) {
             Check.due(x, "account(0, " + what + ")", x.account(0, what), due[what], 0);
         }
+        Check.due("account(1, 0)", x.account(1, 0), 2);
+        Check.due("account(1, 1)", x.account(1, 1), 1);
+        Check.due("account(2, 0)", x.account(2, 0), 1);
+        Check.due("account(2, 1)", x.account(2, 1), 3);
         Check.due("account(2, 4)", x.account(2, 4), 1);
         Check.due("account(2, 5)", x.account(2, 5), 0);
         Check.due("account(2, 7)", x.account(2, 7), 0);

@@ -110,7 +110,7 @@ final class Naive {
         if (isRound(s, so)) {
             out.add(new ArrayList<>(so));
         }
-        if (so.size() == 5) {
+        if (so.size() == 5 || !isWay(s, so)) {
             return;
         }
         for (int t = next; t < s.pays.size(); t++) {
@@ -120,11 +120,18 @@ final class Naive {
         }
     }
 
+    private Object latestKey;
+    private List<List<Integer>> latestRounds;
+
     List<List<Integer>> rounds(State s) {
-        List<List<Integer>> out = new ArrayList<>();
-        choose(s, 0, new ArrayList<>(), out);
-        out.sort(BY_NUMBERS);
-        return out;
+        Object key = List.of(new ArrayList<>(s.pays), new TreeSet<>(s.trusted), Arrays.toString(s.bounds));
+        if (!key.equals(latestKey)) {
+            latestRounds = new ArrayList<>();
+            choose(s, 0, new ArrayList<>(), latestRounds);
+            latestRounds.sort(BY_NUMBERS);
+            latestKey = key;
+        }
+        return latestRounds;
     }
 
     List<Integer> ringOf(State s, List<Integer> round) {

@@ -14,14 +14,16 @@ public final class RandomRunsTest {
     private final int latest;
     private final int most;
     private final boolean dense;
+    private final boolean crowded;
 
     private RandomRunsTest(int seed) {
         random = new Random(seed);
+        crowded = seed % 20 == 0;
         dense = seed % 2 == 0;
         run = "run " + seed + ": ";
-        accounts = 2 + random.nextInt(5);
+        accounts = crowded ? 5 + random.nextInt(3) : 2 + random.nextInt(5);
         latest = 4 + random.nextInt(40);
-        most = dense ? 12 + random.nextInt(7) : 6 + random.nextInt(10);
+        most = crowded ? 32 : dense ? 12 + random.nextInt(7) : 6 + random.nextInt(10);
     }
 
     private int below(int n) {
@@ -291,7 +293,7 @@ public final class RandomRunsTest {
         due("bound(2, 90)", x.bound(2, 90), y.bound(2, 90));
         due("bound(3, 90)", x.bound(3, 90), y.bound(3, 90));
         due("bound(1, 5)", x.bound(1, 5), y.bound(1, 5));
-        for (int turn = 0; turn < 20 && y.s.pays.size() < most; turn++) {
+        for (int turn = 0; turn < (crowded ? 60 : 20) && y.s.pays.size() < most; turn++) {
             int a = account();
             int b = account();
             int c = much();
@@ -311,7 +313,7 @@ public final class RandomRunsTest {
             fill();
         }
         for (int call = 0; call < 150; call++) {
-            if (below(3) == 0) {
+            if (below(crowded ? 40 : 3) == 0) {
                 act();
             } else {
                 ask();

@@ -77,6 +77,9 @@ public final class RoundsTest {
             + "pay d>e 10 at 7;pay e>a 1 at 9999;");
         Check.due("round(0, 5)", x.round(0, 5), Float.floatToIntBits(1f / 9999f));
         Check.due("round(0, 6)", x.round(0, 6), Float.floatToIntBits(11110f / 10000f));
+        x = Check.loaded("a b;pay a>b 1 at 0;pay b>a 1 at 1;");
+        Check.due("round(0, 5)", x.round(0, 5), Float.floatToIntBits(1f));
+        Check.due("round(0, 6)", x.round(0, 6), Float.floatToIntBits(1f));
         x = Check.loaded("a b;loss 90;window 9999;pay a>b 2 at 0;pay b>a 1 at 9999;");
         Check.due("round(0, 6)", x.round(0, 6), Float.floatToIntBits(3f / 10000f));
     }
