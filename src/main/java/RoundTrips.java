@@ -1418,14 +1418,14 @@ public final class RoundTrips {
                 closes[t] = 0;
                 unspent[t] = book.amount[t];
             }
-            for (int account = 0; account < MOST_ACCOUNTS; account++) {
-                touched[account] = 0;
-            }
             hunt();
             for (int round = 0; round < count; round++) {
                 countIn(round);
                 net(round);
                 alarmOf[round] = alarms.note(ringOf(round), round, spanOf(round), flowOf(round));
+            }
+            for (int account = 0; account < MOST_ACCOUNTS; account++) {
+                touched[account] = alarms.roundsWith(account);
             }
         }
 
@@ -1454,9 +1454,7 @@ public final class RoundTrips {
         private void countIn(int round) {
             int hops = lengthOf(round);
             for (int i = 0; i < hops; i++) {
-                int t = transferAt(round, i);
-                uses[t]++;
-                touched[book.from[t]]++;
+                uses[transferAt(round, i)]++;
             }
             closes[lastOf(round)]++;
         }
@@ -1836,6 +1834,14 @@ public final class RoundTrips {
             return found;
         }
 
+        int roundsWith(int account) {
+            int sum = 0;
+            for (int alarm = 0; alarm < count; alarm++) {
+                sum += (members[alarm] >>> account & 1) != 0 ? rounds[alarm] : 0;
+            }
+            return sum;
+        }
+
         int roundsWithout(int set) {
             int sum = 0;
             for (int alarm = 0; alarm < count; alarm++) {
@@ -1991,7 +1997,7 @@ public final class RoundTrips {
             }
             for (int t = 0; t < book.transfers; t++) {
                 int age = time - book.time[t];
-                if (age >= 0 && age < breadth) {
+                if (age >= 0 && age < breadth && book.hasAccount(book.from[t])) {
                     reached[book.from[t]] |= 1 << book.to[t];
                 }
             }
