@@ -2,6 +2,8 @@
 final class Check {
     private static int wrong = 0;
     private static int asked = 0;
+    /** What runs now: told with each answer that is not as due. */
+    static String where = "";
 
     private Check() { }
 
@@ -10,7 +12,7 @@ final class Check {
         if (got != want) {
             wrong++;
             if (wrong <= 40) {
-                System.out.println(call + " answered " + got + ", due is " + want);
+                System.out.println(where + call + " answered " + got + ", due is " + want);
             }
         }
     }
