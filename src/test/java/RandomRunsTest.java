@@ -15,6 +15,7 @@ public final class RandomRunsTest {
     private final int most;
     private final boolean dense;
     private final boolean crowded;
+    private int calls;
 
     private RandomRunsTest(int seed) {
         random = new Random(seed);
@@ -31,6 +32,7 @@ public final class RandomRunsTest {
     }
 
     private void due(String call, long got, long want) {
+        calls += 2;
         Check.due(run + call, got, want);
         Check.due(run + "status() behind " + call, x.status(), y.status());
     }
@@ -312,7 +314,8 @@ public final class RandomRunsTest {
         if (dense) {
             fill();
         }
-        for (int call = 0; call < 150; call++) {
+        // An ACT is at most some fifty calls (a text is fed by many): the object stays within its 512.
+        while (calls < 450) {
             if (below(crowded ? 40 : 3) == 0) {
                 act();
             } else {
